@@ -75,7 +75,7 @@ public final class ExchangeText {
         spareModel = new Model();
         kept = new Model();
         graph = new Graph(model);
-        byNumber = new Leads();
+        byNumber = new Leads(0);
         Words words = new Words(text);
         schemaReader = new SchemaReader(words, spareKinds);
         modelReader = new ModelReader(words, spareModel);
@@ -889,14 +889,12 @@ public final class ExchangeText {
         }
     }
 
-    /** Which line's number stands for a line's number; at first each for itself. */
+    /** Which line's number stands for a line's number; behind the end of the row each for itself. */
     private static final class Leads {
-        private final int[] to = new int[GREATEST_LINE + 1];
+        private final int[] to;
 
-        Leads() {
-            for (int number = 0; number < to.length; number++) {
-                to[number] = number;
-            }
+        Leads(int room) {
+            to = new int[room < 0 ? 0 : room];
         }
 
         int of(int number) {
@@ -1176,7 +1174,7 @@ public final class ExchangeText {
         private final long[] reach = new long[MOST_LINES];
         final int[] depth = new int[MOST_LINES];
         /** Of alike lines all lead to the one with the least number. */
-        final Leads leads = new Leads();
+        final Leads leads = new Leads(GREATEST_LINE + 1);
         private boolean grouped;
 
         Graph(Model model) {

@@ -74,6 +74,10 @@ public final class WaysTest {
         due.bad("no such line", () -> x.place(13, 0));
         x.set(1, 1, -999999999);
         due.is("after set", -999999999 + 20 - 200, () -> x.place(3, 1));
+        ExchangeText y = Due.with("", "#1=A(1,2,3,$);");
+        Due.say(y, "#1=A(1,2,3);");
+        y.read();
+        due.bad("a fourth argument of an earlier model", () -> y.place(1, 0));
     }
 
     private static void alike(Due due) {
