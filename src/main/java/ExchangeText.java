@@ -81,7 +81,7 @@ public final class ExchangeText {
         modelReader = new ModelReader(words, spareModel);
     }
 
-    public int say(long word) {
+    public int say(long word) throws IllegalArgumentException, IllegalStateException {
         int more = 0;
         for (int shift = 56; shift >= 0; shift -= 8) {
             int sign = byteOf(word, shift);
@@ -97,7 +97,7 @@ public final class ExchangeText {
         return text.length;
     }
 
-    public int trim(int n) {
+    public int trim(int n) throws IllegalArgumentException {
         if (n < 0 || n > text.length) {
             throw new IllegalArgumentException("there are not so many characters");
         }
@@ -105,7 +105,7 @@ public final class ExchangeText {
         return text.length;
     }
 
-    public int charAt(int i) {
+    public int charAt(int i) throws IllegalArgumentException {
         if (i < 0 || i >= text.length) {
             throw new IllegalArgumentException("there is no such character");
         }
@@ -152,13 +152,13 @@ public final class ExchangeText {
         return kept.lines;
     }
 
-    public int line(int place) {
+    public int line(int place) throws IllegalArgumentException {
         refuseUnless(place >= 0);
         int row = model.rowAt(place);
         return row == NONE ? NONE : model.number[row];
     }
 
-    public int told(int line, int what) {
+    public int told(int line, int what) throws IllegalArgumentException {
         int row = rowOrRefuse(line);
         refuseUnless(what >= 0 && what <= 3);
         if (what == 0) {
@@ -170,19 +170,19 @@ public final class ExchangeText {
         return what == 2 ? model.referencesOf(row) : graph.depth[row];
     }
 
-    public int argument(int line, int k, int what) {
+    public int argument(int line, int k, int what) throws IllegalArgumentException {
         int spot = spotOrRefuse(line, k);
         refuseUnless(what == 0 || what == 1);
         return what == 0 ? model.sort[spot] : model.value[spot];
     }
 
-    public int item(int line, int k, int i) {
+    public int item(int line, int k, int i) throws IllegalArgumentException {
         int spot = spotOrRefuse(line, k);
         refuseUnless(i >= 0 && i < model.itemsOf(spot));
         return model.itemAt(spot, i);
     }
 
-    public int set(int line, int k, int v) {
+    public int set(int line, int k, int v) throws IllegalArgumentException {
         int spot = spotOrRefuse(line, k);
         refuseUnless(v >= -GREATEST_NUMBER && v <= GREATEST_NUMBER);
         refuseUnless(model.sort[spot] == NUMBER);
@@ -192,7 +192,7 @@ public final class ExchangeText {
         return before;
     }
 
-    public int wrong(int k, int what) {
+    public int wrong(int k, int what) throws IllegalArgumentException {
         refuseUnless(k >= 0 && what >= 0 && what <= 2);
         int left = k;
         for (int p = 0; p < model.lines; p++) {
@@ -209,7 +209,7 @@ public final class ExchangeText {
         return NONE;
     }
 
-    public int from(int line, int k) {
+    public int from(int line, int k) throws IllegalArgumentException {
         int row = rowOrRefuse(line);
         refuseUnless(k >= 0);
         int left = k;
@@ -225,7 +225,7 @@ public final class ExchangeText {
         return NONE;
     }
 
-    public int ring(int k) {
+    public int ring(int k) throws IllegalArgumentException {
         refuseUnless(k >= 0);
         int left = k;
         for (int p = 0; p < model.lines; p++) {
@@ -240,7 +240,7 @@ public final class ExchangeText {
         return NONE;
     }
 
-    public long place(int line, int axis) {
+    public long place(int line, int axis) throws IllegalArgumentException {
         int row = rowOrRefuse(line);
         refuseUnless(axis >= 0 && axis < AXES);
         refuseUnless(model.isPlaced(row));
@@ -257,7 +257,7 @@ public final class ExchangeText {
         return RING;
     }
 
-    public boolean alike(int line, int other) {
+    public boolean alike(int line, int other) throws IllegalArgumentException {
         rowOrRefuse(line);
         rowOrRefuse(other);
         graph.group();
@@ -272,7 +272,7 @@ public final class ExchangeText {
         return before - model.lines;
     }
 
-    public int differs(int k, int what) {
+    public int differs(int k, int what) throws IllegalArgumentException {
         refuseUnless(k >= 0 && (what == 0 || what == 1));
         int left = k;
         int p = 0;
@@ -294,7 +294,7 @@ public final class ExchangeText {
         return NONE;
     }
 
-    public int count(int what) {
+    public int count(int what) throws IllegalArgumentException {
         refuseUnless(what >= 0 && what <= 3);
         if (what == 0) {
             return text.length;

@@ -1,5 +1,6 @@
 import java.io.IOException;
 import java.lang.reflect.Constructor;
+import java.lang.reflect.Executable;
 import java.lang.reflect.Field;
 import java.lang.reflect.Method;
 import java.lang.reflect.Modifier;
@@ -13,36 +14,94 @@ import java.util.regex.Pattern;
 
 /** The public face of the document, and what of LANGUAGE.md can be seen from outside or in the source. */
 public final class RulesTest {
-    private static final String[] FACE = {"say(long)int", "trim(int)int", "charAt(int)int", "schema()int", "read()int",
-        "write()int", "keep()int", "line(int)int", "told(int,int)int", "argument(int,int,int)int",
-        "item(int,int,int)int", "set(int,int,int)int", "wrong(int,int)int", "from(int,int)int", "ring(int)int",
-        "place(int,int)long", "alike(int,int)boolean", "join()int", "differs(int,int)int", "count(int)int"};
+    private static final String BAD = " throws IllegalArgumentException";
+    /** The document's face, as its lines stand there, but without the names of parameters. */
+    private static final String[] FACE = {
+        "public ExchangeText()",
+        "public int say(long)" + BAD + ", IllegalStateException",
+        "public int trim(int)" + BAD,
+        "public int charAt(int)" + BAD,
+        "public int schema()",
+        "public int read()",
+        "public int write()",
+        "public int keep()",
+        "public int line(int)" + BAD,
+        "public int told(int, int)" + BAD,
+        "public int argument(int, int, int)" + BAD,
+        "public int item(int, int, int)" + BAD,
+        "public int set(int, int, int)" + BAD,
+        "public int wrong(int, int)" + BAD,
+        "public int from(int, int)" + BAD,
+        "public int ring(int)" + BAD,
+        "public long place(int, int)" + BAD,
+        "public boolean alike(int, int)" + BAD,
+        "public int join()",
+        "public int differs(int, int)" + BAD,
+        "public int count(int)" + BAD};
 
     public static void main(String[] args) throws IOException {
         Due due = new Due();
+        document(due);
         face(due);
+        constants(due);
         members(due);
         source(due);
         room(due);
         due.end();
     }
 
-    private static String told(Method m) {
-        StringBuilder out = new StringBuilder(m.getName()).append('(');
-        for (Class<?> type : m.getParameterTypes()) {
-            out.append(out.charAt(out.length() - 1) == '(' ? "" : ",").append(type.getName());
+    /** The face that is written out above is the one that the document has. */
+    private static void document(Due due) throws IOException {
+        String document = Files.readString(Path.of("../shared/DOC.md"));
+        int begin = document.indexOf("public final class ExchangeText {");
+        String block = document.substring(begin, document.indexOf("```", begin));
+        Set<String> told = new TreeSet<>();
+        Matcher line = Pattern.compile("(public [^=;{]*)\\(([^)]*)\\)([^;]*);").matcher(block);
+        while (line.find()) {
+            told.add(line.group(1) + "(" + line.group(2).replaceAll(" \\w+(?=,|$)", "") + ")" + line.group(3));
         }
-        return out.append(')').append(m.getReturnType().getName()).toString();
+        sameFace(due, "in the document", told);
     }
 
+    /** What the class declares, exceptions and their order too. */
     private static void face(Due due) {
         Set<String> found = new TreeSet<>();
         for (Method m : ExchangeText.class.getDeclaredMethods()) {
             if (!Modifier.isPrivate(m.getModifiers())) {
-                found.add((Modifier.isPublic(m.getModifiers()) ? "" : "hidden ") + told(m));
+                found.add(declared(m, m.getReturnType().getSimpleName() + " " + m.getName()));
             }
         }
-        due.answers("the methods", new TreeSet<>(Arrays.asList(FACE)).toString(), found.toString());
+        for (Constructor<?> c : ExchangeText.class.getDeclaredConstructors()) {
+            found.add(declared(c, c.getDeclaringClass().getSimpleName()));
+        }
+        sameFace(due, "in the class", found);
+    }
+
+    private static String declared(Executable e, String name) {
+        String modifiers = Modifier.toString(e.getModifiers());
+        String thrown = simpleNames(e.getExceptionTypes());
+        return (modifiers + " " + name).trim() + "(" + simpleNames(e.getParameterTypes()) + ")"
+                + (thrown.isEmpty() ? "" : " throws " + thrown);
+    }
+
+    private static String simpleNames(Class<?>[] types) {
+        StringBuilder out = new StringBuilder();
+        for (Class<?> type : types) {
+            out.append(out.length() == 0 ? "" : ", ").append(type.getSimpleName());
+        }
+        return out.toString();
+    }
+
+    private static void sameFace(Due due, String where, Set<String> found) {
+        Set<String> all = new TreeSet<>(Arrays.asList(FACE));
+        all.addAll(found);
+        for (String member : all) {
+            String want = Arrays.asList(FACE).contains(member) ? "there" : "not there";
+            due.answers(where + ": " + member, want, found.contains(member) ? "there" : "not there");
+        }
+    }
+
+    private static void constants(Due due) {
         Set<String> fields = new TreeSet<>();
         for (Field f : ExchangeText.class.getDeclaredFields()) {
             if (!Modifier.isPrivate(f.getModifiers())) {
@@ -51,18 +110,19 @@ public final class RulesTest {
         }
         due.answers("the constants", "[public static final int LONG, public static final int NONE,"
                 + " public static final long RING]", fields.toString());
-        Constructor<?>[] makers = ExchangeText.class.getDeclaredConstructors();
-        due.is("constructors", 1, () -> makers.length);
-        due.is("it is public", 1, () -> Due.one(Modifier.isPublic(makers[0].getModifiers())));
-        due.is("without parameters", 0, () -> makers[0].getParameterCount());
+        due.is("NONE", -1, () -> ExchangeText.NONE);
+        due.is("LONG", -2, () -> ExchangeText.LONG);
+        due.is("RING", 1000000000000L, () -> ExchangeText.RING);
         due.is("public and final", 1, () -> Due.one(Modifier.isPublic(ExchangeText.class.getModifiers())
                 && Modifier.isFinal(ExchangeText.class.getModifiers())));
     }
 
     private static void members(Due due) {
         Set<String> publicNames = new TreeSet<>();
-        for (String method : FACE) {
-            publicNames.add(method.substring(0, method.indexOf('(')));
+        for (Method m : ExchangeText.class.getDeclaredMethods()) {
+            if (Modifier.isPublic(m.getModifiers())) {
+                publicNames.add(m.getName());
+            }
         }
         Class<?>[] inside = ExchangeText.class.getDeclaredClasses();
         due.is("some twelve classes at most", 1, () -> Due.one(inside.length <= 12));
