@@ -81,10 +81,10 @@ public final class WaysTest {
     }
 
     private static void alike(Due due) {
-        ExchangeText x = Due.with("", "#1=A(1);#2=A(1);#3=B(1);#4=A(1,1);#5=A('1');#6=A(#1);#7=A(#2);#8=A(#4);"
+        String model = "#1=A(1);#2=A(1);#3=B(1);#4=A(1,1);#5=A('1');#6=A(#1);#7=A(#2);#8=A(#4);"
                 + "#9=A((#1,#2));#10=A((#2,#2));#11=A((#2));#12=A(#12);#13=A(#12);#14=A(#12);#15=A((1,2));"
                 + "#16=A((1,2));#17=A((1,3));#18=A(.UP.);#19=A('UP');#20=A('UP');#21=A($);#22=A($);#23=A(());"
-                + "#24=A(());#25=A(.UP.);#26=A('UQ');#27=A(#6,#7);#28=A(#7,#6);#29=A(.UQ.);#30=A(-1);");
+                + "#24=A(());#25=A(.UP.);#26=A('UQ');#27=A(#6,#7);#28=A(#7,#6);#29=A(.UQ.);#30=A(-1);";
         int[][] groups = {{1, 2}, {3}, {4}, {5}, {6, 7}, {8}, {9, 10}, {11}, {12}, {13}, {14}, {15, 16}, {17},
             {18, 25}, {19, 20}, {21, 22}, {23, 24}, {26}, {27, 28}, {29}, {30}};
         int[] group = new int[31];
@@ -94,15 +94,17 @@ public final class WaysTest {
             }
         }
         for (int a = 1; a <= 30; a++) {
+            ExchangeText x = Due.with("", model);
             for (int b = 1; b <= 30; b++) {
                 int one = a;
                 int other = b;
                 due.is("alike " + a + " " + b, Due.one(group[a] == group[b]), () -> Due.one(x.alike(one, other)));
             }
         }
-        due.bad("no such line", () -> Due.one(x.alike(31, 1)));
-        due.bad("no such other", () -> Due.one(x.alike(1, 31)));
-        due.bad("neither", () -> Due.one(x.alike(0, 0)));
+        ExchangeText z = Due.with("", model);
+        due.bad("no such line", () -> Due.one(z.alike(31, 1)));
+        due.bad("no such other", () -> Due.one(z.alike(1, 31)));
+        due.bad("neither", () -> Due.one(z.alike(0, 0)));
         ExchangeText y = Due.with("", "#1=A(1);#2=A(1);#3=A(#1);#4=A(#2);");
         due.is("alike at first", 1, () -> Due.one(y.alike(3, 4)));
         y.set(2, 0, 2);
