@@ -219,6 +219,15 @@ final class ReadSentences {
                 .right("read", 1, "#1=A((1,2,3,4,5,6),(#1,#1,#1,#1,#1,#1));");
     }
 
+    /** The first line and eight others, without a word of more than one character. */
+    private static String oneLetterWords(String firstLine) {
+        StringBuilder text = new StringBuilder(firstLine);
+        for (int i = 1; i <= 7; i++) {
+            text.append("#" + i + "=A(" + "(-1,-1,-1,-1,-1,-1),".repeat(7) + "(#1,#2,#3,#4,#5,#6));");
+        }
+        return text.append("#8=A($,.X.,#9,(-1,1),(#9,#9),-1);").toString();
+    }
+
     /** A line that is cut behind each of its words, with blanks and without. */
     private static void ends(SentencesTest s) {
         Case c = s.of(6, "or the end of the text, if more must come.");
@@ -238,5 +247,12 @@ final class ReadSentences {
                 .given("", "#1=A(1);#2=A(2);").says("#1=A(3)").changesNothing("read()", -8)
                 .given("", "#1=A(#1);").says("#1=A(#1").changesNothing("read()", -8)
                 .given("", "#1=A(#1);").says("#1=A(#").changesNothing("read()", -7);
+        // A full text whose words are one character each is cut behind each word of its last line.
+        for (String first : new String[] {"1", "-1", "(1,1,1,1,1,1)", "(-1,1,1,1,1,1)"}) {
+            for (int k = 0; k < 8; k++) {
+                String text = oneLetterWords("#9=A(" + first + ",1".repeat(k) + ");");
+                c.wrongAt("read", text.substring(0, 1200) + "^");
+            }
+        }
     }
 }
