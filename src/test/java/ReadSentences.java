@@ -166,8 +166,17 @@ final class ReadSentences {
                 if (!(" " + textAndWords[1] + " ").contains(" " + word + " ")) {
                     // The blank keeps names and digits apart.
                     c.wrongAt("read", textAndWords[0] + " ^" + word);
+                    stillWrongAt(c, textAndWords[0] + " ^" + word);
                 }
             }
+        }
+    }
+
+    /** The place stays the same behind another line, and before whatever might end the line rightly. */
+    private static void stillWrongAt(Case c, String marked) {
+        for (String rest : new String[] {"", ");", " ;", " 1);", " 1));", "=A(1);", "(1);", ".);", "A.);"}) {
+            String text = "#7=B(1);" + marked + rest;
+            c.given("", "").says(text.replace("^", "")).is("read()", -1 - text.indexOf('^'));
         }
     }
 
@@ -211,7 +220,8 @@ final class ReadSentences {
                 .wrongAt("read", "#1=A(1,2,3,4,5,6,7,8,^#9);").wrongAt("read", "#1=A(1,2,3,4,5,6,7,8,^$);")
                 .wrongAt("read", "#1=A(1,2,3,4,5,6,7,8,^.X.);").wrongAt("read", "#1=A(1,2,3,4,5,6,7,8,^());")
                 .wrongAt("read", "#1=A(1,2,3,4,5,6,7,8,^-9);").wrongAt("read", "#1=A(1,2,3,4,5,6,7,8 ^9);")
-                .wrongAt("read", "#1=A(1,2,3,4,5,6,7,8,^);").right("read", 1, "#1=A(1,2,3,4,5,6,7,8);");
+                .wrongAt("read", "#1=A(1,2,3,4,5,6,7,8,^);").wrongAt("read", "#1=A(1,2,3,4,5,6,7,8,^;")
+                .wrongAt("read", "#1=A(1,2,3,4,5,6,7,8,^,9);").right("read", 1, "#1=A(1,2,3,4,5,6,7,8);");
         s.of(6, "or a seventh item, begins;").wrongAt("read", "#1=A((1,2,3,4,5,6, ^7));")
                 .wrongAt("read", "#1=A((1,2,3,4,5,6,^-7));").wrongAt("read", "#1=A((#1,#1,#1,#1,#1,#1, ^#1));")
                 .wrongAt("read", "#1=A((#1,#1,#1,#1,#1,#1,^1));").wrongAt("read", "#1=A((1,2,3,4,5,6,^#1));")

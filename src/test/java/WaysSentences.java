@@ -156,12 +156,16 @@ final class WaysSentences {
                 .is("write()", 51).text("#1=A(1);#3=B((#1),(2,65),(#1,#1),'A',.A.,2,(2),#1);");
         StringBuilder same = new StringBuilder();
         StringBuilder pairs = new StringBuilder("#1=A(1);#2=A(1);");
+        StringBuilder full = new StringBuilder();
         for (int i = 1; i <= 40; i++) {
+            full.append("#" + i + "=A(" + i + ",2,3,4,5,6,7,#" + i + ");");
             same.append("#" + (1000 - i) + "=A(1);");
             pairs.append(i < 3 ? "" : "#" + i + "=A(#" + (i - 2) + ",#" + (i - 2) + ");");
         }
         s.of(19, "how many go.").is("join()", 0).given("", "#1=A(1);#2=A(2);").changesNothing("join()", 0)
                 .given("", "#1=A(#1);#2=A(#1);#3=A(#1);").changesNothing("join()", 0)
+                .given("", full.toString()).changesNothing("join()", 0)
+                .given("", full.toString().replaceAll("#\\d+\\)", "8)")).changesNothing("join()", 0)
                 .given("", same.toString()).is("join()", 39).is("line(0)", 960).is("count(2)", 1)
                 .changesNothing("join()", 0).given("", pairs.toString()).is("join()", 20).is("told(39, 3)", 19)
                 .is("count(2)", 20).given("", "#1=A(1);#2=A(2);#3=B(#1);#4=B(#2);").is("join()", 0)
